@@ -96,6 +96,12 @@ public final class CertificatesTest {
         Due.is("calendar(1, 1)", x.calendar(1, 1), 2);
         Due.is("calendar(2, 1)", x.calendar(2, 1), 1);
         Due.is("calendar(2, 0)", x.calendar(2, 0), 21);
+        // With the last point its certificate goes, though the calendar was asked before.
+        x.setVelocity(4, -100);
+        Due.is("calendar(0, 1) of certificate 4", x.calendar(0, 1), 4);
+        x.remove(4);
+        Due.is("calendar(0, 1) without it", x.calendar(0, 1), 3);
+        Due.is("calendar(3, 1) without it", x.calendar(3, 1), NOT_FOUND);
     }
 
     private static void promise15CalendarSize() {
