@@ -4,7 +4,7 @@ public final class ModelTest {
     private static final int CALLS = 512;
     private static final int[] VALUES = {3, 30, 400, 1000000};
     private static final int[] VELOCITIES = {1, 4, 50, 1000};
-    private static final int[] PASSES = {2, 10, 60, 400};
+    private static final int[] PASSES = {2, 10, 60, 400, 6000};
     private static final int[] EXTREMES = {
         Integer.MIN_VALUE, Integer.MIN_VALUE + 1, -1000001, -1001, -1, 24, 1001, 100001, 1000001,
         Integer.MAX_VALUE - 1, Integer.MAX_VALUE
@@ -24,7 +24,7 @@ public final class ModelTest {
         numbers = new Numbers(run);
         values = VALUES[numbers.between(0, 3)];
         velocities = VELOCITIES[numbers.between(0, 3)];
-        passes = PASSES[numbers.between(0, 3)];
+        passes = PASSES[numbers.between(0, 4)];
         operationsIn = numbers.between(1, 6);
     }
 
