@@ -534,5 +534,12 @@ public final class DescriptionTest {
         Due.is("valueAt(0, 3) of none", x.valueAt(0, 3), NOT_FOUND);
         Due.is("valueAt(0, 4) of the second one", x.valueAt(0, 4), 90);
         Due.is("valueAt(0, 5) of the second one", x.valueAt(0, 5), 89);
+        x.remove(0);
+        Due.is("number, again", x.insert(7, 0), 0);
+        // The second one was not born at 0: what is left of it would be seen.
+        Due.is("birth of the third one", x.point(0, 3), 6);
+        Due.is("velocity of the third one", x.point(0, 1), 0);
+        Due.is("valueAt(0, 5) of the second one, still", x.valueAt(0, 5), 89);
+        Due.is("valueAt(0, 6) of the third one", x.valueAt(0, 6), 7);
     }
 }

@@ -454,6 +454,9 @@ public final class PointsEdgesTest {
         Due.is("a number given again", x.insert(0, 0), 0);
         Due.is("birth of another point", x.point(0, 3), 100000);
         Due.is("birth of the one that stayed", x.point(1, 3), 1);
+        x.remove(1);
+        x.insert(0, 0);
+        Due.is("birth in the place of one that was born at 1", x.point(1, 3), 100000);
     }
 
     /** "place: 0 or more"; "NOT_FOUND if there are not so many points" */
