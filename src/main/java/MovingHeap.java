@@ -34,8 +34,8 @@ public final class MovingHeap {
     private long stops;
 
     public MovingHeap() {
-        points = new Lines();
-        heap = new Heap(points);
+        heap = new Heap();
+        points = heap.points;
         history = new History();
         births = new int[MOST_POINTS];
         now = 0;
@@ -495,7 +495,7 @@ public final class MovingHeap {
         }
     }
 
-    /** The places of the points in the heap, and the certificates between them. */
+    /** The present points, their places in the heap, and the certificates between them. */
     private static final class Heap {
         private final Lines points;
         private final int[] pointsByPlace;
@@ -506,8 +506,8 @@ public final class MovingHeap {
         private long exchanges;
         private long topExchanges;
 
-        Heap(Lines points) {
-            this.points = points;
+        Heap() {
+            points = new Lines();
             pointsByPlace = new int[MOST_POINTS];
             placesByPoint = new int[MOST_POINTS];
             failures = new int[MOST_POINTS];
